@@ -1,87 +1,6 @@
 /** Each promise of the document: ordinary calls, the edges that it names, and wrong arguments. */
-public final class PromisesTest {
-    private static final int INVALID = -1;
-    private static final int NOT_POSSIBLE = -2;
-    private static final int LIMIT = -3;
-    private static final int NOT_FOUND = -4;
-    private static final int LEAST = Integer.MIN_VALUE;
-    private static final int MOST = Integer.MAX_VALUE;
-
+public final class PromisesTest extends Cases {
     private PromisesTest() {
-    }
-
-    private static void due(String what, long got, long want) {
-        Check.due(what, got, want);
-    }
-
-    private static LearningSpans with(int... letters) {
-        LearningSpans x = new LearningSpans();
-        for (int letter : letters) {
-            x.put(letter);
-        }
-        return x;
-    }
-
-    private static LearningSpans by(int pace, int bound) {
-        LearningSpans x = new LearningSpans();
-        x.set(0, pace);
-        x.set(1, bound);
-        return x;
-    }
-
-    /** Forty letters that learn so slowly that they need more bits than a text holds. */
-    private static LearningSpans longMessage() {
-        LearningSpans x = by(1, 2000);
-        for (int i = 0; i < 40; i++) {
-            x.put(i % 8);
-        }
-        return x;
-    }
-
-    private static void type(LearningSpans x, String text) {
-        for (int i = 0; i < text.length(); i++) {
-            x.type(text.charAt(i));
-        }
-    }
-
-    private static String bits(LearningSpans x) {
-        StringBuilder row = new StringBuilder();
-        for (int place = 0; place < x.count(1); place++) {
-            row.append(x.bit(place));
-        }
-        return row.toString();
-    }
-
-    private static String letters(LearningSpans x) {
-        StringBuilder row = new StringBuilder();
-        for (int place = 0; place < x.count(0); place++) {
-            row.append((char) ('a' + x.letter(place)));
-        }
-        return row.toString();
-    }
-
-    private static void same(String what, String got, String want) {
-        Check.holds(what + " is " + got + ", due is " + want + ":", got.equals(want));
-    }
-
-    /** Everything but the history and the text is alike in both. */
-    private static void alike(String what, LearningSpans got, LearningSpans want) {
-        for (int number = 0; number <= 12; number++) {
-            if (number != 8 && number != 9) {
-                due(what + ", count(" + number + ")", got.count(number), want.count(number));
-            }
-        }
-        same(what + ": row", bits(got), bits(want));
-        same(what + ": letters", letters(got), letters(want));
-        for (int place = 0; place < want.count(0); place++) {
-            due(what + ", cost(" + place + ")", got.cost(place), want.cost(place));
-        }
-        for (int letter = 0; letter <= 8; letter++) {
-            for (int number = 0; number <= 3; number++) {
-                due(what + ", letterOf(" + letter + ", " + number + ")", got.letterOf(letter, number),
-                    want.letterOf(letter, number));
-            }
-        }
     }
 
     private static void promise1NewObject() {
@@ -167,7 +86,7 @@ public final class PromisesTest {
 
     private static void promise3End() {
         LearningSpans x = new LearningSpans();
-        // 58254 to 65535 narrows to 466..58719 after three bits 1: low is small, so 0 and then 1
+        // 58254 to 65535 becomes 7280 to 65535 behind three bits 1: low is below 16384, so 0 and then 1
         due("end() of nothing", x.end(), 5);
         same("end() of nothing", bits(x), "11101");
         due("ended", x.count(7), 1);
